@@ -414,8 +414,9 @@ public final class MastPulpits {
             return cell >= 0 && cell < CELLS && ((set >>> cell) & 1L) != 0;
         }
 
+        /** As many cells as stand before the least one, so many is its number. */
         static int least(long set) {
-            return set == 0 ? NONE : Long.numberOfTrailingZeros(set);
+            return set == 0 ? NONE : Long.bitCount((set & -set) - 1);
         }
 
         private static int moved(int cell, int rows, int columns) {
@@ -621,7 +622,7 @@ public final class MastPulpits {
         }
 
         private void goOrStrike(int ahead) {
-            if (isLand(ahead)) {
+            if (Chart.holds(lands, ahead)) {
                 shipHull--;
             } else {
                 shipCell = ahead;
@@ -700,15 +701,15 @@ public final class MastPulpits {
             for (int acts = 0; acts < length && place < length; acts++) {
                 int act = actAt(place);
                 if (act == NONE) {
-                    return opensAnAct(signAt(place)) ? place + 1 : place;
+                    return needsASecond(signAt(place)) ? place + 1 : place;
                 }
                 place += signsOf(act);
             }
             return NONE;
         }
 
-        private static boolean opensAnAct(int sign) {
-            return isLetter(sign) || sign == 'w' || sign == 'f' || sign == 'c' || sign == '.';
+        private static boolean needsASecond(int sign) {
+            return isLetter(sign) || sign == 'w' || sign == 'f';
         }
     }
 
@@ -841,7 +842,7 @@ public final class MastPulpits {
         }
 
         private int leastCut(int set, int l) {
-            int least = Integer.MAX_VALUE;
+            int least = PIECES * ROPE;
             for (int i = 0; i < many && i < pieces.length; i++) {
                 int others = set & ~(1 << i);
                 if (others != set && others >= 0 && others < cutOfSet.length) {
