@@ -16,20 +16,8 @@ public final class VoyageTest {
         DUE.end();
     }
 
-    private static MastPulpits with(String text) {
-        return says(new MastPulpits(), text);
-    }
-
-    private static MastPulpits says(MastPulpits x, String text) {
-        x.wipe();
-        for (int i = 0; i < text.length(); i++) {
-            x.say(text.charAt(i));
-        }
-        return x;
-    }
-
     private static void judged(MastPulpits x, String text, int act, int why, int strikes) {
-        says(x, text);
+        Deck.says(x, text);
         DUE.is(text + ": judge(0)", x.judge(0), act);
         DUE.is(text + ": judge(1)", x.judge(1), why);
         DUE.is(text + ": judge(2)", x.judge(2), strikes);
@@ -91,18 +79,18 @@ public final class VoyageTest {
     private static void behind() {
         int[] cells = {19, 20, 28, 36, 35, 34, 26, 18};
         for (int way = 0; way < 8; way++) {
-            DUE.is("way " + way, with("A^w" + way).behind(0), cells[way]);
+            DUE.is("way " + way, Deck.with("A^w" + way).behind(0), cells[way]);
         }
-        told(with(""), 27, 3, -6, -6, 0, 0);
-        told(with(".."), 27, 3, -6, -6, 0, 2);
-        told(with("f2."), 27, 3, -6, -6, 1, 1);
-        told(with("f2...."), 27, 3, -6, -6, 0, 4);
-        told(with("E^"), 27, 3, 4, 0, 0, 0);
-        told(with("E^..B^."), 27, 3, 1, 1, 0, 3);
-        told(with("E^..E_."), 27, 3, -6, -6, 0, 3);
-        told(with("E^..E_E^."), 27, 3, 4, 1, 0, 3);
-        told(with("E^f7.w3w4"), 44, 3, 4, 1, 6, 1);
-        MastPulpits x = with("E^..w2");
+        told(Deck.with(""), 27, 3, -6, -6, 0, 0);
+        told(Deck.with(".."), 27, 3, -6, -6, 0, 2);
+        told(Deck.with("f2."), 27, 3, -6, -6, 1, 1);
+        told(Deck.with("f2...."), 27, 3, -6, -6, 0, 4);
+        told(Deck.with("E^"), 27, 3, 4, 0, 0, 0);
+        told(Deck.with("E^..B^."), 27, 3, 1, 1, 0, 3);
+        told(Deck.with("E^..E_."), 27, 3, -6, -6, 0, 3);
+        told(Deck.with("E^..E_E^."), 27, 3, 4, 1, 0, 3);
+        told(Deck.with("E^f7.w3w4"), 44, 3, 4, 1, 6, 1);
+        MastPulpits x = Deck.with("E^..w2");
         x.behind(0);
         DUE.is("the ship itself stays", x.told(2), 27);
         DUE.is("nobody is up in fact", x.told(4), -6);
@@ -118,7 +106,7 @@ public final class VoyageTest {
     }
 
     private static void seen(MastPulpits x, String text, int many, int far, int which) {
-        says(x, text);
+        Deck.says(x, text);
         DUE.is(text + ": seen(0)", x.seen(0), many);
         DUE.is(text + ": seen(1)", x.seen(1), far);
         DUE.is(text + ": seen(2)", x.seen(2), which);
@@ -172,16 +160,16 @@ public final class VoyageTest {
     private static void silence() {
         MastPulpits x = new MastPulpits();
         x.land(31, 1);
-        says(x, "A^c");
+        Deck.says(x, "A^c");
         DUE.is("silence(0), land", x.silence(0), -6);
         DUE.is("silence(1), land", x.silence(1), 1);
-        says(x, "A^cf1c.cf5cc");
+        Deck.says(x, "A^cf1c.cf5cc");
         DUE.is("silence(0)", x.silence(0), 3);
         DUE.is("silence(1)", x.silence(1), 5);
-        says(x, "...");
+        Deck.says(x, "...");
         DUE.is("silence(0), no call", x.silence(0), -6);
         DUE.is("silence(1), no call", x.silence(1), 0);
-        says(x, "A^w6cc");
+        Deck.says(x, "A^w6cc");
         DUE.is("silence(0)", x.silence(0), 2);
         DUE.is("silence(1)", x.silence(1), 2);
         DUE.is("silence(2)", x.silence(2), -2);
@@ -196,7 +184,7 @@ public final class VoyageTest {
     }
 
     private static void refused(String text, int due) {
-        MastPulpits x = with(text);
+        MastPulpits x = Deck.with(text);
         for (int what = 0; what < 6; what++) {
             DUE.is(text + ": behind(" + what + ")", x.behind(what), due);
         }
@@ -220,7 +208,7 @@ public final class VoyageTest {
         MastPulpits x = new MastPulpits();
         x.land(28, 1);
         x.look(1, 1, true);
-        says(x, "C^w2f4..w4");
+        Deck.says(x, "C^w2f4..w4");
         DUE.is("done()", x.done(), 6);
         DUE.is("the pad is empty", x.told(0), 0);
         int[] due = {0, 1, 35, 2, 2, 2, 2, 2, 1};
@@ -229,14 +217,14 @@ public final class VoyageTest {
         }
         DUE.is("done() of nothing", x.done(), 0);
         DUE.is("the ship stays", x.told(2), 35);
-        says(x, "C^");
+        Deck.says(x, "C^");
         DUE.is("he is up already", x.judge(1), 1);
-        says(x, "..C_.");
+        Deck.says(x, "..C_.");
         DUE.is("done()", x.done(), 4);
         DUE.is("nobody is up", x.told(4), -6);
         DUE.is("for no hours", x.told(5), -6);
         DUE.is("hour", x.told(7), 5);
-        says(x, "C^");
+        Deck.says(x, "C^");
         DUE.is("done()", x.done(), 1);
         DUE.is("up for 0 hours", x.told(5), 0);
     }
@@ -250,7 +238,7 @@ public final class VoyageTest {
             for (int i = 0; i < count; i++) {
                 hours.append('.');
             }
-            says(x, hours.toString());
+            Deck.says(x, hours.toString());
             DUE.is("done()", x.done(), times == 0 ? 51 : 48);
         }
         DUE.is("hour", x.told(7), 98);
