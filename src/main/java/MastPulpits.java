@@ -831,9 +831,11 @@ public final class MastPulpits {
             return rest == 0;
         }
 
-        /** For each set of pieces: the fewest full ropes before the last one, and the least cut from that. */
+        /**
+         * For each set of pieces: the fewest full ropes before the last one, and the least cut from that.
+         * Of the set of no pieces nothing is cut, so its place stays as it was made, 0.
+         */
         int fewestRopes(int l) {
-            cutOfSet[0] = 0;
             for (int set = 1; set < (1 << many) && set < cutOfSet.length; set++) {
                 cutOfSet[set] = leastCut(set, l);
             }
